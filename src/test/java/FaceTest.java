@@ -7,15 +7,6 @@ import java.util.TreeSet;
 
 /** The class shows what the document's public face lists, and nothing else. */
 public final class FaceTest {
-    private static int wrong = 0;
-
-    private static void due(String what, Object got, Object want) {
-        if (!got.equals(want)) {
-            wrong++;
-            System.out.println(what + ": " + got + ", due is " + want);
-        }
-    }
-
     private static boolean isHidden(int modifiers) {
         return Modifier.isPrivate(modifiers);
     }
@@ -28,7 +19,7 @@ public final class FaceTest {
                     + f.getName() + " = " + f.get(null));
             }
         }
-        due("constants", found, new TreeSet<>(Set.of(
+        Check.due("constants", found, new TreeSet<>(Set.of(
             "public static final int BAD_VERTEX = -1",
             "public static final int NONE = -2",
             "public static final int OFF = 0",
@@ -49,7 +40,7 @@ public final class FaceTest {
                 open.add(m.getName());
             }
         }
-        due("methods", found, new TreeSet<>(Set.of(
+        Check.due("methods", found, new TreeSet<>(Set.of(
             "public int edge(int,int,boolean)",
             "public int turn(int,boolean)",
             "public int circle(int,int)",
@@ -65,25 +56,22 @@ public final class FaceTest {
             "public boolean helps(int,int)",
             "public int needed()")));
         hidden.retainAll(open);
-        due("private methods with a public one's name", hidden, new TreeSet<String>());
+        Check.due("private methods with a public one's name", hidden, new TreeSet<String>());
     }
 
     private static void classItself() {
         Class<?> c = MatchingStructure.class;
-        due("class", Modifier.toString(c.getModifiers()), "public final");
-        due("nested classes", c.getDeclaredClasses().length, 0);
+        Check.due("class", Modifier.toString(c.getModifiers()), "public final");
+        Check.due("nested classes", c.getDeclaredClasses().length, 0);
         Constructor<?>[] made = c.getDeclaredConstructors();
-        due("constructors", made.length, 1);
-        due("constructor", made[0].toString(), "public MatchingStructure()");
+        Check.due("constructors", made.length, 1);
+        Check.due("constructor", made[0].toString(), "public MatchingStructure()");
     }
 
     public static void main(String[] args) throws IllegalAccessException {
         constants();
         methods();
         classItself();
-        System.out.println(wrong == 0 ? "the face is as due" : wrong + " things are not as due");
-        if (wrong != 0) {
-            System.exit(1);
-        }
+        Check.end();
     }
 }

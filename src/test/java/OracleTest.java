@@ -7,7 +7,6 @@ import java.util.List;
  */
 public final class OracleTest {
     private static final int N = 10;
-    private static int wrong = 0;
     private static long seed = 20261115L;
 
     private final MatchingStructure x = new MatchingStructure();
@@ -36,11 +35,9 @@ public final class OracleTest {
     }
 
     private void due(String call, Object got, Object want) {
+        // The calls so far are put into words only where they are needed: they are long.
         if (!got.equals(want)) {
-            wrong++;
-            if (wrong <= 20) {
-                System.out.println(calls + ": " + call + " answered " + got + ", due is " + want);
-            }
+            Check.due(calls + ": " + call, got, want);
         }
     }
 
@@ -355,9 +352,6 @@ public final class OracleTest {
         for (int i = 0; i < 300; i++) {
             runAsking(20 + next(80));
         }
-        System.out.println(wrong == 0 ? "all answers are as due" : wrong + " answers are not as due");
-        if (wrong != 0) {
-            System.exit(1);
-        }
+        Check.end();
     }
 }

@@ -1,49 +1,7 @@
 /** For each promise of the document, by its number: ordinary inputs, named edges, wrong inputs. */
 public final class PromisesTest {
-    private static final int[] NO_VERTEX = {
-        -1, -2, 10, 11, 31, 32, 33, 64, -32, Integer.MIN_VALUE, Integer.MAX_VALUE};
-    private static int wrong = 0;
-
-    private static void due(int promise, String what, int got, int want) {
-        if (got != want) {
-            wrong++;
-            System.out.println("promise " + promise + ": " + what + " answered " + got + ", due is " + want);
-        }
-    }
-
-    private static void due(int promise, String what, boolean got, boolean want) {
-        due(promise, what, got ? 1 : 0, want ? 1 : 0);
-    }
-
-    private static MatchingStructure graph(int... ends) {
-        MatchingStructure x = new MatchingStructure();
-        for (int i = 0; i < ends.length; i += 2) {
-            x.edge(ends[i], ends[i + 1], true);
-        }
-        return x;
-    }
-
-    /** Which vertices are on, from the part of each; what edges there are is asked of edge itself. */
-    private static int onMask(MatchingStructure x) {
-        return x.members(1) | x.members(2) | x.members(3);
-    }
-
-    private static int bits(int... vertices) {
-        int mask = 0;
-        for (int v : vertices) {
-            mask |= 1 << v;
-        }
-        return mask;
-    }
-
-    private static int edgesTakenAway(MatchingStructure x) {
-        int found = 0;
-        for (int a = 0; a < 10; a++) {
-            for (int b = 0; b < a; b++) {
-                found += x.edge(a, b, false);
-            }
-        }
-        return found;
+    private static void due(int promise, String what, Object got, Object want) {
+        Check.due("promise " + promise + ": " + what, got, want);
     }
 
     private static void newObject() {
@@ -53,11 +11,11 @@ public final class PromisesTest {
         }
         due(1, "size()", x.size(), 0);
         due(1, "missed()", x.missed(), 10);
-        due(1, "edges", edgesTakenAway(x), 0);
+        due(1, "edges", Graphs.edgesTakenAway(x), 0);
         for (int v = 0; v < 10; v++) {
             due(1, "turn(" + v + ", true)", x.turn(v, true), 1);
         }
-        MatchingStructure y = graph(0, 1);
+        MatchingStructure y = Graphs.of(0, 1);
         due(1, "another object's edge", x.edge(0, 1, false), 0);
         due(1, "its own edge", y.edge(0, 1, false), 1);
     }
@@ -82,9 +40,9 @@ public final class PromisesTest {
     }
 
     private static void edgeRefused() {
-        MatchingStructure x = graph(0, 1);
+        MatchingStructure x = Graphs.of(0, 1);
         for (int there = 0; there < 2; there++) {
-            for (int bad : NO_VERTEX) {
+            for (int bad : Graphs.NO_VERTEX) {
                 due(2, "edge(0, " + bad + ")", x.edge(0, bad, there == 1), -1);
                 due(2, "edge(" + bad + ", 0)", x.edge(bad, 0, there == 1), -1);
                 due(2, "edge(" + bad + ", " + bad + ")", x.edge(bad, bad, there == 1), -1);
@@ -93,12 +51,12 @@ public final class PromisesTest {
                 due(2, "edge(" + v + ", " + v + ")", x.edge(v, v, there == 1), -1);
             }
         }
-        due(2, "vertices on after refusals", onMask(x), 1023);
-        due(2, "edges after refusals", edgesTakenAway(x), 1);
+        due(2, "vertices on after refusals", Graphs.onSet(x), 1023);
+        due(2, "edges after refusals", Graphs.edgesTakenAway(x), 1);
     }
 
     private static void turn() {
-        MatchingStructure x = graph(0, 1, 1, 2);
+        MatchingStructure x = Graphs.of(0, 1, 1, 2);
         due(3, "off", x.turn(1, false), 1);
         due(3, "off again", x.turn(1, false), 0);
         due(3, "size with it off", x.size(), 0);
@@ -109,13 +67,13 @@ public final class PromisesTest {
         due(3, "other edge stayed", x.edge(2, 1, true), 1);
         x.turn(0, false);
         x.turn(9, false);
-        due(3, "on are", onMask(x), 1023 - bits(0, 9));
-        for (int bad : NO_VERTEX) {
+        due(3, "on are", Graphs.onSet(x), 1023 - Graphs.set(0, 9));
+        for (int bad : Graphs.NO_VERTEX) {
             due(3, "turn(" + bad + ", false)", x.turn(bad, false), -1);
             due(3, "turn(" + bad + ", true)", x.turn(bad, true), -1);
         }
-        due(3, "on after refusals", onMask(x), 1023 - bits(0, 9));
-        due(3, "edges after refusals", edgesTakenAway(x), 2);
+        due(3, "on after refusals", Graphs.onSet(x), 1023 - Graphs.set(0, 9));
+        due(3, "edges after refusals", Graphs.edgesTakenAway(x), 2);
     }
 
     private static void circle() {
@@ -130,7 +88,7 @@ public final class PromisesTest {
         due(4, "edge 2-5", x.edge(2, 5, false), 1);
         due(4, "edge 3-5", x.edge(3, 5, false), 1);
         due(4, "no edge 2-4", x.edge(2, 4, false), 0);
-        due(4, "edges left", edgesTakenAway(x), 8);
+        due(4, "edges left", Graphs.edgesTakenAway(x), 8);
         x.turn(1, false);
         x.edge(0, 1, true);
         due(4, "circle over one that is off", x.circle(0, 2), 2);
@@ -139,8 +97,8 @@ public final class PromisesTest {
     }
 
     private static void circleRefused() {
-        MatchingStructure x = graph(0, 1);
-        for (int bad : NO_VERTEX) {
+        MatchingStructure x = Graphs.of(0, 1);
+        for (int bad : Graphs.NO_VERTEX) {
             due(4, "circle(" + bad + ", 9)", x.circle(bad, 9), -1);
             due(4, "circle(0, " + bad + ")", x.circle(0, bad), -1);
         }
@@ -151,12 +109,12 @@ public final class PromisesTest {
                 due(4, "circle(" + a + ", " + b + ")", x.circle(a, b), -1);
             }
         }
-        due(4, "vertices on after refusals", onMask(x), 1023);
-        due(4, "edges after refusals", edgesTakenAway(x), 1);
+        due(4, "vertices on after refusals", Graphs.onSet(x), 1023);
+        due(4, "edges after refusals", Graphs.edgesTakenAway(x), 1);
     }
 
     private static void clear() {
-        MatchingStructure x = graph(0, 1, 8, 9);
+        MatchingStructure x = Graphs.of(0, 1, 8, 9);
         x.circle(2, 7);
         x.turn(0, false);
         x.turn(9, false);
@@ -165,17 +123,17 @@ public final class PromisesTest {
         due(5, "missed()", x.missed(), 10);
         due(5, "turn(0)", x.turn(0, true), 1);
         due(5, "turn(9)", x.turn(9, true), 1);
-        due(5, "edges", edgesTakenAway(x), 0);
+        due(5, "edges", Graphs.edgesTakenAway(x), 0);
     }
 
     private static void sizeAndMissed() {
-        MatchingStructure x = graph(1, 2, 0, 1, 2, 3);
+        MatchingStructure x = Graphs.of(1, 2, 0, 1, 2, 3);
         due(6, "path of four", x.size(), 2);
         due(7, "path of four", x.missed(), 6);
         x.turn(0, false);
         due(6, "path of three", x.size(), 1);
         due(7, "path of three", x.missed(), 7);
-        MatchingStructure star = graph(9, 0, 9, 1, 9, 2, 9, 3);
+        MatchingStructure star = Graphs.of(9, 0, 9, 1, 9, 2, 9, 3);
         due(6, "star", star.size(), 1);
         due(7, "star", star.missed(), 8);
         MatchingStructure triangles = new MatchingStructure();
@@ -197,26 +155,18 @@ public final class PromisesTest {
         due(7, "all off", none.missed(), 0);
     }
 
-    /** A star (border 0, free 1 and 2), a free triangle 3 4 5, a core pair 6 7, 8 off, 9 alone. */
-    private static MatchingStructure mixed() {
-        MatchingStructure x = graph(0, 1, 0, 2, 6, 7, 0, 6, 8, 7);
-        x.circle(3, 5);
-        x.turn(8, false);
-        return x;
-    }
-
     private static void parts() {
-        MatchingStructure x = mixed();
+        MatchingStructure x = Graphs.mixed();
         int[] want = {2, 1, 1, 1, 1, 1, 3, 3, 0, 1};
         for (int v = 0; v < 10; v++) {
             due(8, "part(" + v + ")", x.part(v), want[v]);
         }
-        for (int bad : NO_VERTEX) {
+        for (int bad : Graphs.NO_VERTEX) {
             due(8, "part(" + bad + ")", x.part(bad), -1);
         }
-        due(9, "members(FREE)", x.members(1), bits(1, 2, 3, 4, 5, 9));
-        due(9, "members(BORDER)", x.members(2), bits(0));
-        due(9, "members(CORE)", x.members(3), bits(6, 7));
+        due(9, "members(FREE)", x.members(1), Graphs.set(1, 2, 3, 4, 5, 9));
+        due(9, "members(BORDER)", x.members(2), Graphs.set(0));
+        due(9, "members(CORE)", x.members(3), Graphs.set(6, 7));
         due(9, "members(OFF)", x.members(0), 0);
         int[] others = {-1, -2, 4, 5, 32, 33, 34, 35, Integer.MIN_VALUE, Integer.MAX_VALUE};
         for (int other : others) {
@@ -235,13 +185,13 @@ public final class PromisesTest {
         x.turn(0, false);
         due(10, "path of eight", x.groups(), 0);
         // The free vertices 0 and 2 hang together only through 1, which is not free.
-        due(10, "path of three and seven alone", graph(0, 1, 1, 2).groups(), 9);
+        due(10, "path of three and seven alone", Graphs.of(0, 1, 1, 2).groups(), 9);
         for (int v = 0; v < 10; v++) {
             x.turn(v, false);
         }
         due(10, "all off", x.groups(), 0);
         // One group whose vertices hang together along a way that goes up and down.
-        MatchingStructure y = graph(8, 0, 0, 7, 7, 1, 1, 6, 6, 2, 2, 5, 5, 3, 3, 4, 4, 8);
+        MatchingStructure y = Graphs.of(8, 0, 0, 7, 7, 1, 1, 6, 6, 2, 2, 5, 5, 3, 3, 4, 4, 8);
         due(10, "circle of nine in another order", y.groups(), 2);
     }
 
@@ -258,22 +208,22 @@ public final class PromisesTest {
         due(11, "its neighbour", x.partner(0), 3);
         due(11, "left over", x.partner(2), -2);
         // 0 would like 1, but then the matching is not greatest.
-        MatchingStructure path = graph(1, 0, 0, 2, 1, 3);
+        MatchingStructure path = Graphs.of(1, 0, 0, 2, 1, 3);
         due(11, "path, 0", path.partner(0), 2);
         due(11, "path, 1", path.partner(1), 3);
         due(11, "path, 3", path.partner(3), 1);
         // No partner comes after all partners, so 0 is the one that has 9.
-        MatchingStructure star = graph(9, 0, 9, 1, 9, 2);
+        MatchingStructure star = Graphs.of(9, 0, 9, 1, 9, 2);
         due(11, "star, 0", star.partner(0), 9);
         due(11, "star, 1", star.partner(1), -2);
         due(11, "star, 9", star.partner(9), 0);
-        for (int bad : NO_VERTEX) {
+        for (int bad : Graphs.NO_VERTEX) {
             due(11, "partner(" + bad + ")", star.partner(bad), -1);
         }
     }
 
     private static void inSomeAndInAll() {
-        MatchingStructure x = graph(0, 1, 1, 2, 2, 3, 4, 5, 5, 6, 7, 8);
+        MatchingStructure x = Graphs.of(0, 1, 1, 2, 2, 3, 4, 5, 5, 6, 7, 8);
         due(12, "outer edge of a path", x.inSome(0, 1), true);
         due(13, "outer edge of a path", x.inAll(1, 0), true);
         due(12, "inner edge of a path", x.inSome(1, 2), false);
@@ -297,7 +247,7 @@ public final class PromisesTest {
     }
 
     private static void pairsRefused(MatchingStructure x) {
-        for (int bad : NO_VERTEX) {
+        for (int bad : Graphs.NO_VERTEX) {
             due(12, "inSome(0, " + bad + ")", x.inSome(0, bad), false);
             due(12, "inSome(" + bad + ", 0)", x.inSome(bad, 0), false);
             due(13, "inAll(0, " + bad + ")", x.inAll(0, bad), false);
@@ -314,7 +264,7 @@ public final class PromisesTest {
     }
 
     private static void helps() {
-        MatchingStructure x = graph(0, 1, 1, 2, 4, 5);
+        MatchingStructure x = Graphs.of(0, 1, 1, 2, 4, 5);
         due(14, "two alone", x.helps(8, 9), true);
         due(14, "the ends of a path of three", x.helps(0, 2), false);
         due(14, "an end and one alone", x.helps(2, 9), true);
@@ -343,9 +293,9 @@ public final class PromisesTest {
         due(15, "circle of five", x.needed(), 0);
         x.turn(0, false);
         due(15, "path of four", x.needed(), 4);
-        due(15, "asking switched none", onMask(x), 1022);
-        due(15, "star", graph(0, 1, 0, 2, 0, 3).needed(), 1);
-        due(15, "border and core", mixed().needed(), 3);
+        due(15, "asking switched none", Graphs.onSet(x), 1022);
+        due(15, "star", Graphs.of(0, 1, 0, 2, 0, 3).needed(), 1);
+        due(15, "border and core", Graphs.mixed().needed(), 3);
         for (int v = 0; v < 10; v++) {
             x.turn(v, false);
         }
@@ -365,9 +315,6 @@ public final class PromisesTest {
         inSomeAndInAll();
         helps();
         needed();
-        System.out.println(wrong == 0 ? "all answers are as due" : wrong + " answers are not as due");
-        if (wrong != 0) {
-            System.exit(1);
-        }
+        Check.end();
     }
 }
